@@ -1394,6 +1394,13 @@ public final class TwinBuckets {
             }
         }
 
+        /** A step that may skip goes on behind what has been emitted by now. */
+        void aim(int step) {
+            if (step >= 0 && step < size) {
+                args[step] = size;
+            }
+        }
+
         /** What a part of a clause comes to; a part that is not there is so. */
         int worth(int clause, int part, int[] words, int[] stack) {
             int from = cell(clause, part);
@@ -1508,14 +1515,14 @@ public final class TwinBuckets {
             number = 0;
             if (start >= length) {
                 kind = END;
-            } else if (isLetter(bytes[start])) {
+            } else if (bytes[start] >= 'a' && bytes[start] <= 'z') {
                 kind = LETTERS;
-                while (after < length && isLetter(bytes[after])) {
+                while (after < length && bytes[after] >= 'a' && bytes[after] <= 'z') {
                     after++;
                 }
-            } else if (isDigit(bytes[start])) {
+            } else if (bytes[start] >= '0' && bytes[start] <= '9') {
                 kind = DIGITS;
-                while (after < length && isDigit(bytes[after])) {
+                while (after < length && bytes[after] >= '0' && bytes[after] <= '9') {
                     // Beyond what is allowed anyway the number need not grow.
                     number = Math.min(number * 10 + bytes[after] - '0', MOST_NUMBER + 1);
                     after++;
@@ -1524,14 +1531,6 @@ public final class TwinBuckets {
                 kind = bytes[start];
                 after++;
             }
-        }
-
-        private static boolean isLetter(int sign) {
-            return sign >= 'a' && sign <= 'z';
-        }
-
-        private static boolean isDigit(int sign) {
-            return sign >= '0' && sign <= '9';
         }
 
         private boolean isWord(String word) {
@@ -1568,7 +1567,9 @@ public final class TwinBuckets {
             }
             boolean isGood = isOrders ? readOrder() : readRule();
             if (isGood && passWord("if")) {
-                isGood = readTestPart();
+                text.setCell(TEST, text.size);
+                isGood = readTest(0);
+                text.setCell(TEST + 1, text.size);
             }
             if (isGood) {
                 text.clauseCount++;
@@ -1618,20 +1619,13 @@ public final class TwinBuckets {
             return isGood;
         }
 
-        private boolean readTestPart() {
-            text.setCell(TEST, text.size);
-            boolean isGood = readTest(0);
-            text.setCell(TEST + 1, text.size);
-            return isGood;
-        }
-
         private boolean readTest(int brackets) {
             boolean isGood = readBoth(brackets);
             for (int i = 0; i < MOST_BYTES && isGood && passWord("or"); i++) {
                 int skip = text.size;
                 text.emit(OP_OR, 0);
                 isGood = readBoth(brackets);
-                text.args[skip] = text.size;
+                text.aim(skip);
             }
             return isGood;
         }
@@ -1642,7 +1636,7 @@ public final class TwinBuckets {
                 int skip = text.size;
                 text.emit(OP_AND, 0);
                 isGood = readPlain(brackets);
-                text.args[skip] = text.size;
+                text.aim(skip);
             }
             return isGood;
         }
@@ -1657,22 +1651,14 @@ public final class TwinBuckets {
             if (kind == '(') {
                 isGood = brackets < MOST_BRACKETS && passSign('(') && readTest(brackets + 1) && passSign(')');
             } else {
-                isGood = readSum(brackets) && readComparison(brackets);
+                isGood = readSum(brackets);
+                int op = kind == '<' ? OP_LESS : kind == '>' ? OP_MORE : OP_SAME;
+                isGood = isGood && (passSign('<') || passSign('>') || passSign('=')) && readSum(brackets);
+                text.emit(op, 0);
             }
             if (isGood && isTurned) {
                 text.emit(OP_NOT, 0);
             }
-            return isGood;
-        }
-
-        private boolean readComparison(int brackets) {
-            int op = kind == '<' ? OP_LESS : kind == '>' ? OP_MORE : kind == '=' ? OP_SAME : NONE;
-            if (op == NONE) {
-                return false;
-            }
-            next();
-            boolean isGood = readSum(brackets);
-            text.emit(op, 0);
             return isGood;
         }
 
