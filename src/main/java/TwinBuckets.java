@@ -114,14 +114,12 @@ public final class TwinBuckets {
     private final History history = new History();
     private final History orderHistory = new History();
     private final Image[] images = new Image[IMAGES];
-    private final Reader reader = new Reader();
-    private final int[] tape = new int[MOST_BYTES];
+    private final Tape tape = new Tape();
     private final int[] orderWords = new int[ORDER_WORDS + MOST_PARTS];
     private final int[] refusals = new int[1 - BAD_TEXT];
     private final int[] drawnValues = new int[DRAWN_KEYS];
     private final int[] slotCounts = new int[SLOTS];
     private final long[] chances = new long[MOST_FEW];
-    private int tapeBytes = 0;
     private int tearsOfRow = 0;
     private int faultPlace = NONE;
     private int stoppedClause = NONE;
@@ -180,33 +178,33 @@ public final class TwinBuckets {
     }
 
     public int feed(int a, int b, int c, int d, int e) {
-        if (tapeBytes + FED_BYTES > MOST_BYTES) {
+        if (tape.fed + FED_BYTES > MOST_BYTES) {
             return NONE;
         }
-        addBytes(a);
-        addBytes(b);
-        addBytes(c);
-        addBytes(d);
-        addBytes(e);
-        return tapeBytes;
+        tape.addBytes(a);
+        tape.addBytes(b);
+        tape.addBytes(c);
+        tape.addBytes(d);
+        tape.addBytes(e);
+        return tape.fed;
     }
 
     public int end(int n) {
-        if (n < 0 || n > tapeBytes) {
+        if (n < 0 || n > tape.fed) {
             return NONE;
         }
-        tapeBytes = n;
+        tape.fed = n;
         return n;
     }
 
     public int row() {
-        int length = takeTape();
+        int length = tape.take();
         if (length == 0) {
             return refuse(BAD_TEXT);
         }
         int done = 0;
         for (int i = 0; i + 1 < length; i += 2) {
-            if (now.placeKey(tape[i], tape[i + 1], rules) >= 0) {
+            if (now.placeKey(tape.bytes[i], tape.bytes[i + 1], rules) >= 0) {
                 done++;
             }
         }
@@ -220,21 +218,21 @@ public final class TwinBuckets {
     }
 
     public int law() {
-        int length = takeTape();
+        tape.take();
         if (rules.lawCount >= MOST_LAWS) {
             return refuse(NO_ROOM);
         }
-        faultPlace = reader.readText(tape, length, false);
+        faultPlace = tape.readText(false);
         if (faultPlace != NONE) {
             return refuse(BAD_TEXT);
         }
-        return grant(rules.addLaw(new Text(reader.text)));
+        return grant(rules.addLaw(new Text(tape.text)));
     }
 
     public int orders() {
-        int length = takeTape();
+        tape.take();
         stoppedClause = NONE;
-        faultPlace = reader.readText(tape, length, true);
+        faultPlace = tape.readText(true);
         if (faultPlace != NONE) {
             return refuse(BAD_TEXT);
         }
@@ -242,8 +240,8 @@ public final class TwinBuckets {
         orderHistory.clear();
         orderWords[WORD_DONE] = 0;
         orderWords[WORD_LATEST] = NONE;
-        for (int c = 0; c < reader.text.clauseCount; c++) {
-            if (!runClause(reader.text, c)) {
+        for (int c = 0; c < tape.text.clauseCount; c++) {
+            if (!runClause(tape.text, c)) {
                 stoppedClause = c;
                 now.copyFrom(aheadOfOrders);
                 return refuse(CANT_BE);
@@ -473,7 +471,7 @@ public final class TwinBuckets {
             case 6:
                 return history.many;
             case 7:
-                return tapeBytes;
+                return tape.fed;
             case 8:
                 return refusals[-BAD_NUMBER];
             case 9:
@@ -567,20 +565,6 @@ public final class TwinBuckets {
                 rules.salt = value;
                 break;
         }
-    }
-
-    private void addBytes(int four) {
-        for (int shift = 24; shift >= 0; shift -= 8) {
-            tape[tapeBytes] = four >>> shift & 255;
-            tapeBytes++;
-        }
-    }
-
-    /** The bytes stay where they are until the next feed(), so that they can still be read. */
-    private int takeTape() {
-        int length = tapeBytes;
-        tapeBytes = 0;
-        return length;
     }
 
     private int act(int kind, int first, int second, History kept) {
@@ -1469,10 +1453,10 @@ public final class TwinBuckets {
     }
 
     /**
-     * Reads a text of either language by descent. A method that can't go on answers false and leaves
-     * the token where it is, so that the fault is always at the token that stands.
+     * The tape, and the reading of a text of either language on it by descent. A method that can't go on
+     * answers false and leaves the token where it is, so that the fault is always at the token that stands.
      */
-    private static final class Reader {
+    private static final class Tape {
         private static final int BLANK = 32;
         // A token's kind: one of these, or else the single byte itself.
         private static final int END = -1;
@@ -1480,7 +1464,8 @@ public final class TwinBuckets {
         private static final int DIGITS = -3;
 
         final Text text = new Text();
-        private int[] bytes = null;
+        final int[] bytes = new int[MOST_BYTES];
+        int fed = 0;
         private int length = 0;
         private boolean isOrders = false;
         private int parts = 0;
@@ -1489,10 +1474,22 @@ public final class TwinBuckets {
         private int after = 0;
         private int number = 0;
 
-        /** Where the fault is; NONE without. */
-        int readText(int[] tape, int tapeBytes, boolean ofOrders) {
-            bytes = tape;
-            length = tapeBytes;
+        void addBytes(int four) {
+            for (int shift = 24; shift >= 0 && fed < MOST_BYTES; shift -= 8) {
+                bytes[fed] = four >>> shift & 255;
+                fed++;
+            }
+        }
+
+        /** The tape is empty then; its bytes stay where they are until the next are fed, to be read. */
+        int take() {
+            length = fed;
+            fed = 0;
+            return length;
+        }
+
+        /** Where the fault is of what was taken; NONE without. */
+        int readText(boolean ofOrders) {
             isOrders = ofOrders;
             parts = 0;
             after = 0;
