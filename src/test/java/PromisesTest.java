@@ -17,6 +17,7 @@ public final class PromisesTest {
         law();
         lawWords();
         lawFaults();
+        lawCutShort();
         orders();
         orderWords();
         orderFaults();
@@ -365,6 +366,7 @@ public final class PromisesTest {
         due("1,000,000,000 is not beyond", cost("costs 9 if 1000*1000*1000>0", 0), 9);
         due("beyond", cost("costs 8;costs 9 if 1000*1000*1000+1>0", 0), 8);
         due("beyond below", cost("costs 8;costs 9 if 0-1000*1000*1000-1<0", 0), 8);
+        due("-1,000,000,000 is not beyond", cost("costs 8;costs 9 if 0-1000*1000*1000<0", 0), 9);
         due("beyond on the way", cost("costs 8;costs 9 if 1000*1000*1000*2/1000<1", 0), 8);
         due("or asks no further", cost("costs 9 if 1=1 or 1/0=1", 0), 9);
         due("or asks further", cost("costs 8;costs 9 if 1=2 or 1/0=1", 0), 8);
@@ -375,6 +377,9 @@ public final class PromisesTest {
         due("round brackets", cost("costs 8;costs 9 if (1=1 or 1=1) and 1=2", 0), 8);
         due("not binds most", cost("costs 9 if not 1=1 or 1=1", 0), 9);
         due("not not", cost("costs 9 if not not 1<2", 0), 9);
+        due("not (not ())", cost("costs 8;costs 9 if not (not (1<2))", 0), 9);
+        due("not (not (not ()))", cost("costs 8;costs 9 if not (not (not (1<2)))", 0), 8);
+        due("not within and", cost("costs 8;costs 9 if (not 1=2) and not 1=2", 0), 9);
         due("<", cost("costs 8;costs 9 if 2<2", 0), 8);
         due(">", cost("costs 8;costs 9 if 2>2", 0), 8);
         due("=", cost("costs 8;costs 9 if 2=2", 0), 9);
@@ -405,6 +410,11 @@ public final class PromisesTest {
         faultOfLaw("  costs   1  ", -1);
         faultOfLaw("costs1;bars;bars if 1=1", -1);
         faultOfLaw("Costs 1", 0);
+        faultOfLaw("xosts 1", 0);
+        faultOfLaw("costsz 1", 0);
+        faultOfLaw("costs", 5);
+        faultOfLaw("bars of", 5);
+        faultOfLaw("costs zey", 6);
         faultOfLaw("costs 1;", 8);
         faultOfLaw("costs 1; ", 9);
         faultOfLaw(";costs 1", 0);
@@ -449,6 +459,27 @@ public final class PromisesTest {
         faultOfLaw("bars if " + row("(", 4) + row("[", 5) + "1" + row("]", 5) + "=1" + row(")", 4), 16);
         faultOfLaw("bars if " + row("(", 9) + "1=1" + row(")", 9), 16);
         faultOfLaw("bars if (1=1) and " + row("(", 8) + "1=1" + row(")", 8), -1);
+    }
+
+    /** A text ends where end() says, whatever was fed behind that. */
+    private static void lawCutShort() {
+        promise = "12 law: of the first bytes alone";
+        TwinBuckets x = new TwinBuckets();
+        feed(x, "costs 25");
+        x.end(7);
+        due("law()", x.law(), 0);
+        due("compare(0, 0)", x.compare(0, 0), 2);
+        feed(x, "costs 7;barsy");
+        x.end(12);
+        due("law()", x.law(), 1);
+        due("compare(1, 0)", x.compare(1, 0), 7);
+        feed(x, "costs      ");
+        x.end(6);
+        due("law()", x.law(), -6);
+        due("fault()", x.fault(), 6);
+        feed(x, "costs 1 if 1=1");
+        x.end(8);
+        due("law()", x.law(), 2);
     }
 
     private static void orders() {
@@ -509,6 +540,7 @@ public final class PromisesTest {
         due("keys", worth("keys"), 4);
         due("value", worth("value 7"), 70);
         due("value of none", worth("value 999 + 5"), 4);
+        due("many 0", worth("many 0"), 2);
         due("many", worth("many 1"), 2);
         due("many, not used", worth("many 23 + 5"), 4);
         TwinBuckets x = new TwinBuckets();
@@ -520,6 +552,10 @@ public final class PromisesTest {
         due("key(3, 1)", x.key(3, 1), 3);
         due("latest is of this text", orders(x, "put 3 as latest + 9"), 1);
         due("key(3, 1)", x.key(3, 1), 8);
+        for (int i = 0; i < 6; i++) {
+            due("asked anew", orders(x, "put 3 as value 0" + row("+value 0", 40) + "+value 3-[value 3-4]"), 1);
+            due("key(3, 1)", x.key(3, 1), 4);
+        }
     }
 
     private static void faultOfOrders(String text, int place) {
@@ -723,6 +759,17 @@ public final class PromisesTest {
         due("of(0, 9)", y.of(0, 9), 1);
         due("page(1, 0)", y.page(1, 0), 0);
         due("of(1, 0)", y.of(1, 0), 0);
+        promise = "18 drop: keys and values move up";
+        TwinBuckets w = new TwinBuckets();
+        puts(w, 11, 12, 13);
+        due("drop(11)", w.drop(11), 0);
+        int[] left = {1, 0, 0, 2, 12, 13, -1, 12, 13, -1};
+        for (int what = 0; what < 10; what++) {
+            due("of(0, " + what + ")", w.of(0, what), left[what]);
+        }
+        due("drop(13)", w.drop(13), 0);
+        due("of(0, 4)", w.of(0, 4), 12);
+        due("of(0, 5)", w.of(0, 5), -1);
         promise = "18 drop: twins with more than 3 keys stay";
         TwinBuckets z = new TwinBuckets();
         puts(z, 0, 2, 4, 1, 3, 8);
@@ -776,6 +823,14 @@ public final class PromisesTest {
         due("count(14): TIME stays", x.count(14), 16);
         due("key(32, 1)", x.key(32, 1), -1);
         promise = "20 crash: keys of another page leave";
+        TwinBuckets w = new TwinBuckets();
+        puts(w, 1, 2);
+        due("crash(2): behind all", w.crash(2), 2);
+        due("page(0, 3)", w.page(0, 3), 2);
+        puts(w, 3);
+        due("crash(0): behind none", w.crash(0), 2);
+        due("count(2)", w.count(2), 2);
+        due("count(3)", w.count(3), 0);
         TwinBuckets y = new TwinBuckets();
         puts(y, 0, 1, 2, 4);
         due("crash(4)", y.crash(4), 3);
@@ -792,6 +847,7 @@ public final class PromisesTest {
         // 0 without key 0; 0 joined (2, 4, 1), 1 not used
         due("crash(2)", z.crash(2), 3);
         due("of(0, 1)", z.of(0, 1), 1);
+        due("page(0, 1)", z.page(0, 1), 1);
         due("of(0, 3)", z.of(0, 3), 2);
         due("of(1, 3)", z.of(1, 3), 1);
         due("DEEP", z.count(0), 1);
@@ -855,6 +911,19 @@ public final class PromisesTest {
         due("undo()", y.undo(), -3);
         due("key(3, 1)", y.key(3, 1), 3);
         promise = "21 undo: by orders, too";
+        TwinBuckets z = new TwinBuckets();
+        for (int i = 0; i < 9; i++) {
+            z.put(1, i);
+            z.drop(1);
+        }
+        z.flush(1);
+        due("undo()", z.undo(), 2);
+        for (int i = 0; i < 7; i++) {
+            due("undo()", z.undo(), 1);
+            due("undo()", z.undo(), 0);
+        }
+        due("undo()", z.undo(), 1);
+        due("undo()", z.undo(), -3);
         y.put(4, 4);
         due("orders()", orders(y, "put 3 as done times 20;drop 3"), 21);
         due("count(6)", y.count(6), 16);
@@ -875,6 +944,10 @@ public final class PromisesTest {
             due("undo()", y.undo(), 0);
             due("key(3, 1)", y.key(3, 1), value);
         }
+        due("orders() that can't be", orders(y, "put 3 as 70 times 20;drop 999"), -3);
+        due("orders()", orders(y, "put 3 as 71"), 1);
+        due("count(6): none of those that could not be", y.count(6), 1);
+        due("undo()", y.undo(), 0);
         promise = "21 undo: not ahead of terms(), row(), back()";
         y.image(0);
         y.put(3, 1);
@@ -970,6 +1043,9 @@ public final class PromisesTest {
         puts(z, 0, 64, 128);
         // those with the six lowest signs 0 find no room: multiples of 64, 16 of which there are below 1000
         due("splits(): not those without room", z.splits(), 1000 - 16);
+        TwinBuckets w = new TwinBuckets();
+        puts(w, 1, 2, 999);
+        due("splits(): key 0, too", w.splits(), 997);
     }
 
     private static void roomAndTwin() {
@@ -1187,6 +1263,20 @@ public final class PromisesTest {
         due("years(0, 1): barred", x.years(0, 1), 1);
         due("drawn(25)", x.drawn(25), -1);
         due("years(1000000, 60)", x.years(1000000, 60) >= 1 ? 1 : 0, 1);
+        promise = "36 years: the draws go on";
+        TwinBuckets y = new TwinBuckets();
+        // by seed 5: 20, 4, 2; 24, 0, 2; 13, 1, 2: three are put
+        due("years(5, 2)", y.years(5, 2), 2);
+        due("drawn(13)", y.drawn(13), -1);
+        due("years(5, 3)", y.years(5, 3), 3);
+        due("drawn(20)", y.drawn(20), 4);
+        due("drawn(24)", y.drawn(24), 0);
+        due("drawn(13)", y.drawn(13), 1);
+        // by seed 2: 31, 2, 3; 21, 0, 4; 25, 0, 7: two are put, then power is lost behind none
+        due("years(2, 2)", y.years(2, 2), 2);
+        due("drawn(31)", y.drawn(31), 2);
+        due("years(2, 3)", y.years(2, 3), 0);
+        due("drawn(31)", y.drawn(31), -1);
         promise = "36 years: each act by the draws";
         for (int seed = 0; seed < 40; seed++) {
             yearByHand(seed * 25000);
@@ -1298,6 +1388,28 @@ public final class PromisesTest {
         x.drop(7);
         x.back(1);
         due("key(7, 1)", x.key(7, 1), 7);
+        promise = "39 back: the first law, what was seen";
+        TwinBuckets y = new TwinBuckets();
+        puts(y, 0, 1, 2, 4);
+        y.seen(0, 1);
+        y.image(0);
+        due("law()", law(y, "costs 5"), 0);
+        y.forget();
+        y.seen(1, 1);
+        y.image(1);
+        y.back(0);
+        due("canBe()", y.canBe(), 1);
+        due("law()", law(y, "costs 6"), 0);
+        y.forget();
+        y.seen(0, 0);
+        y.back(1);
+        due("canBe()", y.canBe(), 2);
+        due("compare(0, 0)", y.compare(0, 0), 5);
+        y.forget();
+        y.seen(0, 0);
+        y.back(0);
+        due("canBe()", y.canBe(), 1);
+        due("compare(0, 0)", y.compare(0, 0), -1);
     }
 
     private static void count() {
