@@ -53,7 +53,8 @@ public final class TwinBuckets {
     private static final int MOST_NUMBER = 1000;
     private static final int MOST_TIMES = 20;
     private static final int BOUND = 1_000_000_000;
-    private static final int BROKEN = Integer.MIN_VALUE;
+    // Told in place of a worth: no sum that stands can reach it.
+    private static final int BROKEN = -2_000_000_000;
 
     // A clause's row of cells: each part is a span of the code, from its cell to the next one.
     private static final int KIND = 0;
