@@ -293,6 +293,51 @@ public final class ActTermsTest extends Edges {
         due("USED", w.count(1), 2);
     }
 
+    @Says("and both have 3 KEYS at most together, they are JOINED")
+    static void twoKeysTogetherAndNone() {
+        Desk x = new Desk();
+        x.puts(0, 1, 2, 4);
+        x.crash(5);
+        due("drop: two are left in both", x.drop(1), 1);
+        keys(x, 0, 0, 2);
+        due("count(2)", x.count(2), 2);
+        due("USED", x.count(1), 1);
+        // by another SALT both are empty behind a crash
+        Desk y = new Desk();
+        y.puts(0, 2, 4, 1);
+        y.flush(6);
+        for (int k : new int[] {1, 4, 2, 0}) {
+            y.drop(k);
+        }
+        y.terms(3, 1);
+        y.crash(0);
+        due("USED", y.count(1), 2);
+        due("put", y.put(500, 1), 0);
+        due("USED: a PUT joins none", y.count(1), 2);
+        due("drop: none is left in both", y.drop(500), 1);
+        due("USED", y.count(1), 1);
+        keys(y, 0);
+        due("DEEP", y.count(0), 0);
+        due("room()", y.room(), 3);
+    }
+
+    @Says("To DROP a KEY: it leaves")
+    static void keysOfTheLastBucketOfAFullFile() {
+        Desk x = new Desk();
+        x.putThrees(0, 23);
+        for (int i = 0; i < 3; i++) {
+            for (int j = 0; j < 3; j++) {
+                int[] key = {x.of(23, 4), x.of(23, 5), x.of(23, 6)};
+                int value = x.of(23, 7);
+                due("drop", x.drop(key[j]), 0);
+                keys(x, 23, key[j == 0 ? 1 : 0], key[j == 2 ? 1 : 2]);
+                due("count(2)", x.count(2), 71);
+                due("put", x.put(key[j], value), 0);
+                keys(x, 23, key[j == 0 ? 1 : 0], key[j == 2 ? 1 : 2], key[j]);
+            }
+        }
+    }
+
     @Says("(DEPTH d above 0: a BUCKET of the same DEPTH the PREFIX of which differs in bit d less 1 alone)")
     static void noTwinAtDepth0NorOfAnotherDepth() {
         none("twin(0) at DEPTH 0", NOTHING, x -> x.twin(0));

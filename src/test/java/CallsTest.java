@@ -465,6 +465,34 @@ public final class CallsTest extends Edges {
         }
     }
 
+    @Says("The latest put(), drop(), flush(), crash() (by ORDERS, too; 16 are kept) is undone")
+    static void p21EachOf16IsOfItsKind() {
+        for (int n = 14; n <= 22; n++) {
+            int[] kinds = new int[n];
+            Desk x = new Desk();
+            Desk y = new Desk();
+            for (int i = 0; i < n; i++) {
+                int kind = i * i % 7 % 4;
+                if (kind == 1 && x.key(3, 1) < 0) {
+                    kind = 0;
+                }
+                x.orders(kind == 0 ? "put 3 as " + i : kind == 1 ? "drop 3" : kind == 2 ? "flush 0" : "crash waits");
+                long told = kind == 0 ? y.put(3, i) : kind == 1 ? y.drop(3) : kind == 2 ? y.flush(0)
+                    : y.crash(y.count(3));
+                due("act " + i, told < 0 ? 1 : 0, 0);
+                kinds[i] = kind;
+            }
+            due("count(6)", x.count(6), Math.min(n, 16));
+            for (int i = n - 1; i >= Math.max(0, n - 16); i--) {
+                due("undo() of orders", x.undo(), kinds[i]);
+                due("undo()", y.undo(), kinds[i]);
+                due("key(3, 1)", x.key(3, 1), y.key(3, 1));
+            }
+            due("undo()", x.undo(), -3);
+            due("undo()", y.undo(), -3);
+        }
+    }
+
     @Says("is undone (BUCKETS, DEEP, the DISK, WRITES, TIME are as they were): 0 .. 3. -3 there is none")
     static void p21UndoOfNone() {
         refused("undo() of a new object", NOTHING, Desk::undo, -3);

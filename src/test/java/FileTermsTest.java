@@ -413,6 +413,28 @@ public final class FileTermsTest extends Edges {
         }
     }
 
+    @Says("`int terms(int what, int value)`: A TERM: what it was.")
+    static void aTermThatIsToldLeavesTheOthers() {
+        for (int i = 0; i < 4; i++) {
+            int what = i;
+            Acts ahead = x -> {
+                x.under("costs time+mood");
+                x.terms(0, 1);
+                x.terms(1, 2);
+                x.terms(2, 3);
+                x.terms(3, 4);
+            };
+            Desk x = new Desk();
+            ahead.on(x);
+            due("terms(" + what + ", 7)", x.terms(what, 7), what + 1);
+            for (int other = 0; other < 4; other++) {
+                due("count(" + (14 + other) + ")", x.count(14 + other), other == what ? 7 : other + 1);
+            }
+            granted("terms(" + what + ", 7) and as it was again", ahead, y -> { },
+                y -> y.terms(what, 7) + y.terms(what, what + 1), what + 1 + 7);
+        }
+    }
+
     @Says("it can be told only while there are no KEYS")
     static void saltWhileThereIsOneKey() {
         for (int salt : new int[] {0, 1, 999}) {

@@ -707,6 +707,8 @@ public final class TextTermsTest extends Edges {
         run("put 500 as deep", 1, 1);
         run("crash 0;put 500 as deep", 2, 0);
         run("put 500 as time", 1, 6);
+        run("put 500 as keys*10+value 2+many 1+waits", 1, 40 + 2 + 1 + 6);
+        run("put 500 as value 4*10+value 2", 1, 42);
         run("put 500 as mood", -6, -1);
         run("put 500 as key", -6, -1);
     }
@@ -732,6 +734,43 @@ public final class TextTermsTest extends Edges {
             cant(ahead + order + ";put 2 as 2", 4);
         }
         cant(ahead + "put 192 as 1 times 20;put 256 as 1;put 2 as 2", 5);
+    }
+
+    @Says("all is as it was ahead of it.")
+    static void ordersBehindThoseThatCouldNotBe() {
+        granted("orders() behind those that could not be, and undo()", x -> {
+            rich(x);
+            x.orders("put 64 as 9 times 20;drop 998");
+            x.tape("put 64 as 8");
+        }, x -> x.orders("flush 0 if 1=2"), x -> x.orders() * 0 + x.undo(), 0);
+        Desk x = new Desk();
+        x.put(64, 7);
+        due("orders() that can't be", x.orders("put 64 as 9 times 20;drop 998"), -3);
+        due("orders()", x.orders("put 64 as 8"), 1);
+        due("count(6)", x.count(6), 2);
+        x.undo();
+        due("key(64, 1)", x.key(64, 1), 7);
+    }
+
+    @Says("LAWS, 6 at most")
+    static void manyTextsOnOneTape() {
+        // what one text needed must not be missing for the next one
+        Desk x = fourKeys();
+        String asks = "put 500 as value 500+1+value 4-value 4" + times("+value 0", 30);
+        x.put(500, 0);
+        for (int i = 1; i <= 9; i++) {
+            due("orders", x.orders(asks), 1);
+            due("key(500, 1)", x.key(500, 1), i);
+            due("orders with a fault", x.orders("flush 0" + times("+value 0", 40) + " 1"), -6);
+        }
+        Desk y = fourKeys();
+        for (int i = 0; i < 6; i++) {
+            due("law with a fault", y.law("costs 1" + times("+1", 49) + "?"), -6);
+            due("law", y.law("costs " + i + times("+many-many", 20) + times("+1-1", 4)), i);
+        }
+        for (int i = 0; i < 6; i++) {
+            due("compare(" + i + ", 0)", y.compare(i, 0), i);
+        }
     }
 
     @Says("One that can't be")

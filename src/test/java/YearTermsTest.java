@@ -250,10 +250,11 @@ public final class YearTermsTest extends Edges {
             int k = i;
             Acts kept = x -> {
                 rich(x);
+                x.seen(2, 0);
                 x.image(1 - k);
                 x.put(64, 11);
                 x.image(k);
-                x.row(200, 20, 201, 200, 202, 200);
+                x.row(201, 200, 202, 200);
                 x.years(77, 20);
             };
             alike("behind back(" + k + ")", x -> {
@@ -267,15 +268,60 @@ public final class YearTermsTest extends Edges {
                 x.terms(2, 9);
                 x.law("costs 5");
                 x.force(2);
-                x.seen(5, 0);
+                x.forget();
+                x.seen(5, 1);
+                x.seen(6, 1);
+                x.seen(7, 1);
                 aside.on(x);
                 x.back(k);
             }, x -> {
                 kept.on(x);
                 aside.on(x);
-                x.back(k);
+                // the same as it is: nothing can be undone behind it
+                x.terms(2, 4);
             });
         }
+    }
+
+    @Says("BACK to one all that it keeps is as it was then")
+    static void lawsAndSaltOfTwoImages() {
+        Desk x = new Desk();
+        x.terms(3, 5);
+        x.under("costs 10");
+        x.law("costs 11");
+        x.image(0);
+        due("law()", x.law("costs 12"), 2);
+        x.terms(3, 6);
+        x.force(2);
+        x.image(1);
+        x.back(0);
+        due("count(5)", x.count(5), 2);
+        due("compare(2, 0)", x.compare(2, 0), -1);
+        due("force(2)", x.force(2), -2);
+        due("key(0, 0)", x.key(0, 0), 5);
+        due("law()", x.law("costs 13"), 2);
+        due("compare(2, 0)", x.compare(2, 0), 13);
+        x.put(1, 1);
+        due("terms(3, 7)", x.terms(3, 7), -3);
+        x.back(1);
+        due("key(0, 0)", x.key(0, 0), 6);
+        due("count(13)", x.count(13), 2);
+        due("compare(2, 0)", x.compare(2, 0), 12);
+        x.put(1, 1);
+        due("write(0, 1)", x.write(0, 1), 12);
+        x.back(0);
+        due("key(0, 0)", x.key(0, 0), 5);
+        due("count(13)", x.count(13), 0);
+        due("compare(0, 0)", x.compare(0, 0), 10);
+        due("count(5)", x.count(5), 2);
+        Desk y = new Desk();
+        y.image(0);
+        y.law("costs 20");
+        y.image(1);
+        y.back(0);
+        y.law("costs 21");
+        y.back(1);
+        due("the first LAW, too", y.compare(0, 0), 20);
     }
 
     @Says("(nothing, behind back())")
