@@ -144,7 +144,7 @@ public final class TwinBuckets {
     }
 
     public int slot(int i) {
-        return i >= 0 && i < now.slotsThere() ? now.owners[i] : NONE;
+        return i < now.slotsThere() ? now.ownerOf(i) : NONE;
     }
 
     public int key(int key, int what) {
@@ -369,7 +369,7 @@ public final class TwinBuckets {
         int best = 0;
         int fewest = BUCKETS + 1;
         for (int i = 0; i < now.slotsThere(); i++) {
-            int ofIt = candidates >> now.owners[i] & 1;
+            int ofIt = candidates >> now.ownerOf(i) & 1;
             int left = Math.max(ofIt, all - ofIt);
             if (left < fewest) {
                 best = i;
@@ -622,7 +622,7 @@ public final class TwinBuckets {
         orderWords[WORD_DEEP] = now.deep;
         orderWords[WORD_WAITS] = now.waits;
         orderWords[WORD_KEYS] = now.keysThere();
-        for (int i = 0; i < text.askedCount; i++) {
+        for (int i = 0; i < text.askedCount && i < MOST_PARTS; i++) {
             int asked = text.asked[i];
             orderWords[ORDER_WORDS + i] = asked < KEYS
                 ? now.valueOf(asked, rules)
@@ -669,55 +669,67 @@ public final class TwinBuckets {
             System.arraycopy(other.cells, 0, cells, 0, cells.length);
         }
 
+        /** What of() and page() tell. */
         int tell(int bucket, int what) {
             if (!isBucket(bucket) || what < 0 || what >= CELLS) {
                 return NONE;
             }
-            if (what == USED) {
-                return cells[bucket * CELLS + USED];
+            boolean isThere = what == USED
+                || isUsed(bucket) && (what < KEY || (what - KEY) % BUCKET_KEYS < many(bucket));
+            return isThere ? cell(bucket, what) : NONE;
+        }
+
+        int cell(int bucket, int place) {
+            int at = bucket * CELLS + place;
+            return at >= 0 && at < cells.length ? cells[at] : 0;
+        }
+
+        void setCell(int bucket, int place, int told) {
+            int at = bucket * CELLS + place;
+            if (at >= 0 && at < cells.length) {
+                cells[at] = told;
             }
-            if (!isUsed(bucket) || what >= KEY && (what - KEY) % BUCKET_KEYS >= many(bucket)) {
-                return NONE;
-            }
-            return cells[bucket * CELLS + what];
         }
 
         boolean isUsed(int bucket) {
-            return cells[bucket * CELLS + USED] != 0;
+            return cell(bucket, USED) != 0;
         }
 
         int depth(int bucket) {
-            return cells[bucket * CELLS + DEPTH];
+            return cell(bucket, DEPTH);
         }
 
         int prefix(int bucket) {
-            return cells[bucket * CELLS + PREFIX];
+            return cell(bucket, PREFIX);
         }
 
         int many(int bucket) {
-            return cells[bucket * CELLS + MANY];
+            return cell(bucket, MANY);
         }
 
         int keyAt(int bucket, int i) {
-            return cells[bucket * CELLS + KEY + i];
+            return cell(bucket, KEY + i);
         }
 
         int valueAt(int bucket, int i) {
-            return cells[bucket * CELLS + VALUE + i];
-        }
-
-        void setValue(int bucket, int i, int value) {
-            cells[bucket * CELLS + VALUE + i] = value;
+            return cell(bucket, VALUE + i);
         }
 
         void setPlace(int bucket, int depth, int prefix) {
-            cells[bucket * CELLS + USED] = 1;
-            cells[bucket * CELLS + DEPTH] = depth;
-            cells[bucket * CELLS + PREFIX] = prefix;
+            setCell(bucket, USED, 1);
+            setCell(bucket, DEPTH, depth);
+            setCell(bucket, PREFIX, prefix);
+        }
+
+        void setKey(int bucket, int i, int key, int value) {
+            setCell(bucket, KEY + i, key);
+            setCell(bucket, VALUE + i, value);
         }
 
         void clear(int bucket) {
-            Arrays.fill(cells, bucket * CELLS, bucket * CELLS + CELLS, 0);
+            for (int place = 0; place < CELLS; place++) {
+                setCell(bucket, place, 0);
+            }
         }
 
         /** Where in its bucket a key is. */
@@ -733,25 +745,23 @@ public final class TwinBuckets {
         void append(int bucket, int key, int value) {
             int at = many(bucket);
             if (at < BUCKET_KEYS) {
-                cells[bucket * CELLS + KEY + at] = key;
-                cells[bucket * CELLS + VALUE + at] = value;
-                cells[bucket * CELLS + MANY] = at + 1;
+                setKey(bucket, at, key, value);
+                setCell(bucket, MANY, at + 1);
             }
         }
 
         void removeAt(int bucket, int i) {
             int last = many(bucket) - 1;
             for (int j = i; j < last; j++) {
-                cells[bucket * CELLS + KEY + j] = keyAt(bucket, j + 1);
-                cells[bucket * CELLS + VALUE + j] = valueAt(bucket, j + 1);
+                setKey(bucket, j, keyAt(bucket, j + 1), valueAt(bucket, j + 1));
             }
-            cells[bucket * CELLS + MANY] = last;
+            setCell(bucket, MANY, last);
         }
 
         int usedCount() {
             int used = 0;
             for (int b = 0; b < BUCKETS; b++) {
-                used += cells[b * CELLS + USED];
+                used += cell(b, USED);
             }
             return used;
         }
@@ -809,6 +819,16 @@ public final class TwinBuckets {
             return 1 << deep;
         }
 
+        int ownerOf(int slot) {
+            return slot >= 0 && slot < SLOTS ? owners[slot] : NONE;
+        }
+
+        void setOwner(int slot, int bucket) {
+            if (slot >= 0 && slot < SLOTS) {
+                owners[slot] = bucket;
+            }
+        }
+
         int keysThere() {
             int keys = 0;
             for (int b = 0; b < BUCKETS; b++) {
@@ -818,7 +838,7 @@ public final class TwinBuckets {
         }
 
         int soughtIn(int key, Rules rules) {
-            return owners[rules.hashOf(key) & SLOTS - 1];
+            return ownerOf(rules.hashOf(key) & SLOTS - 1);
         }
 
         int valueOf(int key, Rules rules) {
@@ -838,7 +858,7 @@ public final class TwinBuckets {
             int bucket = soughtIn(key, rules);
             int at = buckets.find(bucket, key);
             if (at != NONE) {
-                buckets.setValue(bucket, at, value);
+                buckets.setKey(bucket, at, key, value);
                 queueWrite(bucket, rules);
                 return 0;
             }
@@ -912,7 +932,7 @@ public final class TwinBuckets {
         void giveSlots(int from, int to) {
             int step = 1 << buckets.depth(from);
             for (int i = buckets.prefix(from); i < SLOTS; i += step) {
-                owners[i] = to;
+                setOwner(i, to);
             }
         }
 
@@ -951,7 +971,7 @@ public final class TwinBuckets {
             if (!buckets.isUsed(bucket) || depth == 0) {
                 return NONE;
             }
-            int other = owners[buckets.prefix(bucket) ^ 1 << depth - 1];
+            int other = ownerOf(buckets.prefix(bucket) ^ 1 << depth - 1);
             return buckets.depth(other) == depth ? other : NONE;
         }
 
@@ -965,6 +985,9 @@ public final class TwinBuckets {
         }
 
         void queueWrite(int bucket, Rules rules) {
+            if (!isBucket(bucket)) {
+                return;
+            }
             int cost = rules.costOf(rules.inForce, this, bucket);
             if (waits == MOST_WRITES) {
                 doEldest();
@@ -983,7 +1006,10 @@ public final class TwinBuckets {
 
         void doEldest() {
             int at = writeAt(0);
-            System.arraycopy(writes, at + WRITE_PAGE, disk.cells, writes[at] * CELLS, CELLS);
+            int bucket = writes[at];
+            if (isBucket(bucket)) {
+                System.arraycopy(writes, at + WRITE_PAGE, disk.cells, bucket * CELLS, CELLS);
+            }
             eldest = (eldest + 1) % MOST_WRITES;
             waits--;
         }
@@ -1053,8 +1079,9 @@ public final class TwinBuckets {
                 }
                 int step = 1 << disk.depth(b);
                 for (int i = disk.prefix(b); i < SLOTS; i += step) {
-                    if (owners[i] == NONE || disk.depth(owners[i]) < disk.depth(b)) {
-                        owners[i] = b;
+                    int other = ownerOf(i);
+                    if (other == NONE || disk.depth(other) < disk.depth(b)) {
+                        setOwner(i, b);
                     }
                 }
             }
@@ -1065,7 +1092,7 @@ public final class TwinBuckets {
             int share = 0;
             int step = 1 << disk.depth(bucket);
             for (int i = disk.prefix(bucket); i < SLOTS; i += step) {
-                if (owners[i] == bucket) {
+                if (ownerOf(i) == bucket) {
                     lowest = share == 0 ? i : lowest;
                     share++;
                 }
@@ -1103,7 +1130,7 @@ public final class TwinBuckets {
             int both = Math.min(slotsThere(), other.slotsThere());
             int differing = Math.max(slotsThere(), other.slotsThere()) - both;
             for (int i = 0; i < both; i++) {
-                if (owners[i] != other.owners[i]) {
+                if (ownerOf(i) != other.ownerOf(i)) {
                     differing++;
                 }
             }
@@ -1185,8 +1212,8 @@ public final class TwinBuckets {
 
         void fillWords(Store store, int bucket, int key, int hash) {
             words[0] = bucket;
-            words[1] = store.buckets.isUsed(bucket) ? store.buckets.depth(bucket) : NONE;
-            words[2] = store.buckets.many(bucket);
+            words[1] = store.buckets.cell(bucket, USED) != 0 ? store.buckets.cell(bucket, DEPTH) : NONE;
+            words[2] = store.buckets.cell(bucket, MANY);
             words[3] = key;
             words[4] = hash;
             words[5] = store.time;
@@ -1256,7 +1283,7 @@ public final class TwinBuckets {
 
         private boolean fits(Store store, int bucket) {
             for (int i = 0; i < many; i++) {
-                boolean isOfIt = slots[i] < store.slotsThere() && store.owners[slots[i]] == bucket;
+                boolean isOfIt = slots[i] < store.slotsThere() && store.ownerOf(slots[i]) == bucket;
                 if (isOfIt != (are[i] == 1)) {
                     return false;
                 }
@@ -1362,12 +1389,17 @@ public final class TwinBuckets {
             askedCount = 0;
         }
 
-        int cell(int clause, int cell) {
-            return clauses[clause * CLAUSE_CELLS + cell];
+        int cell(int clause, int place) {
+            int at = clause * CLAUSE_CELLS + place;
+            return at >= 0 && at < clauses.length ? clauses[at] : 0;
         }
 
-        void setCell(int cell, int value) {
-            clauses[clauseCount * CLAUSE_CELLS + cell] = value;
+        /** Of the clause that is being read. */
+        void setCell(int place, int told) {
+            int at = clauseCount * CLAUSE_CELLS + place;
+            if (at >= 0 && at < clauses.length) {
+                clauses[at] = told;
+            }
         }
 
         /** Each token gives one step of code at most, so that there is always room. */
@@ -1388,8 +1420,8 @@ public final class TwinBuckets {
 
         /** What a part of a clause comes to; a part that is not there is so. */
         int worth(int clause, int part, int[] words, int[] stack) {
-            int from = cell(clause, part);
-            int to = cell(clause, part + 1);
+            int from = Math.max(cell(clause, part), 0);
+            int to = Math.min(cell(clause, part + 1), size);
             int top = 0;
             for (int i = from; i < to && top < stack.length; i++) {
                 int op = ops[i];
@@ -1398,7 +1430,7 @@ public final class TwinBuckets {
                     stack[top] = arg;
                     top++;
                 } else if (op == OP_WORD) {
-                    stack[top] = words[arg];
+                    stack[top] = arg >= 0 && arg < words.length ? words[arg] : NONE;
                     top++;
                 } else if (top == 0) {
                     return BROKEN;
@@ -1418,7 +1450,7 @@ public final class TwinBuckets {
                     }
                 }
             }
-            return from == to ? 1 : stack[0];
+            return top == 0 ? 1 : stack[0];
         }
 
         private static int combine(int op, long left, long right) {
@@ -1711,7 +1743,7 @@ public final class TwinBuckets {
         }
 
         private boolean readAsked(int base, int bound) {
-            if (kind != DIGITS || number >= bound) {
+            if (kind != DIGITS || number >= bound || text.askedCount >= MOST_PARTS) {
                 return false;
             }
             text.asked[text.askedCount] = base + number;

@@ -132,6 +132,8 @@ public final class RandomRunsTest {
         if (pick < 69) {
             int law = near(-1, 5);
             due("force(" + law + ")", program.force(law), model.force(law));
+        } else if (pick < 72 && style == 5 && model.file.keys().size() < 430 - calls) {
+            saltAnew();
         } else if (pick < 72) {
             int what = near(0, 3);
             int value = what == 1 ? near(0, 10) : what == 2 ? near(0, 9) : near(0, 999);
@@ -169,6 +171,20 @@ public final class RandomRunsTest {
         } else {
             ask(pick);
         }
+    }
+
+    /** All keys are dropped, so that the salt can be told while their pages are on the disk yet. */
+    private void saltAnew() {
+        int n = below(model.file.writes.size() + 1);
+        due("flush(" + n + ")", program.flush(n), model.flush(n));
+        for (int k : model.file.keys()) {
+            due("drop(" + k + ")", program.drop(k), model.drop(k));
+        }
+        // Of salts that differ by 64 the keys stay where they are.
+        int salt = oneOf(2) ? 64 * below(15) : oneOf(2) ? 1 << below(6) : near(0, 999);
+        due("terms(3, " + salt + ")", program.terms(3, salt), model.terms(3, salt));
+        int behind = oneOf(2) ? 0 : below(model.file.writes.size() + 1);
+        due("crash(" + behind + ")", program.crash(behind), model.crash(behind));
     }
 
     private void ask(int pick) {
